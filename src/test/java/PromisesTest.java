@@ -1,7 +1,7 @@
 /** For each promise of the document: ordinary calls, the edges it names, its refusals in their order. */
 public final class PromisesTest {
     private static final int NONE = -1, BAD = -2, STATE = -3, FULL = -4;
-    private static final int LEAST = Integer.MIN_VALUE, MOST = Integer.MAX_VALUE;
+    private static final int LEAST = Given.LEAST, MOST = Given.MOST;
 
     private PromisesTest() {
     }
@@ -45,43 +45,6 @@ public final class PromisesTest {
         Due.end("PromisesTest");
     }
 
-    private static void feed(GlitchNets nets, String text) {
-        for (int i = 0; i < text.length(); i += 5) {
-            int n = Math.min(5, text.length() - i);
-            int[] v = new int[5];
-            for (int j = 0; j < n; j++) {
-                v[j] = text.charAt(i + j);
-            }
-            nets.feed(n, v[0], v[1], v[2], v[3], v[4]);
-        }
-    }
-
-    private static int text(GlitchNets nets, String text) {
-        feed(nets, text);
-        return nets.text();
-    }
-
-    private static GlitchNets with(String... texts) {
-        GlitchNets nets = new GlitchNets();
-        for (String text : texts) {
-            Due.holds("gate comes by " + text, text(nets, text) >= 0);
-        }
-        return nets;
-    }
-
-    /** a b + not b c: a glitch while b goes. */
-    private static GlitchNets hazard() {
-        return with("not b 3", "and a b 2", "and 0 c 2", "or 1 2 1");
-    }
-
-    private static GlitchNets full() {
-        GlitchNets nets = with("not a 9");
-        for (int i = 1; i < 12; i++) {
-            Due.is("gate " + i, text(nets, "xor " + (i - 1) + " d 9"), i);
-        }
-        return nets;
-    }
-
     private static void promise1New() {
         Due.is("NONE", GlitchNets.NONE, -1);
         Due.is("BAD", GlitchNets.BAD, -2);
@@ -98,7 +61,7 @@ public final class PromisesTest {
         for (int sheet = 0; sheet < 4; sheet++) {
             Due.is("new sheets are missing", nets.put(sheet, 0, 0), -11);
         }
-        GlitchNets other = with("not a 1");
+        GlitchNets other = Given.net("not a 1");
         Due.is("objects are apart", other.count(0) + 10 * nets.count(0), 1);
     }
 
@@ -145,35 +108,35 @@ public final class PromisesTest {
         String[] words = {"and", "nand", "or", "nor", "xor"};
         GlitchNets nets = new GlitchNets();
         for (int kind = 0; kind < 5; kind++) {
-            Due.is(words[kind], text(nets, words[kind] + " a d " + (kind + 1)), kind);
+            Due.is(words[kind], Given.text(nets, words[kind] + " a d " + (kind + 1)), kind);
             Due.is("kind", nets.gate(kind, 0), kind);
             Due.is("first", nets.gate(kind, 1), -1);
             Due.is("second", nets.gate(kind, 2), -4);
             Due.is("delay", nets.gate(kind, 3), kind + 1);
         }
-        Due.is("not", text(nets, "not 4 9"), 5);
+        Due.is("not", Given.text(nets, "not 4 9"), 5);
         Due.is("kind of not", nets.gate(5, 0), 5);
         Due.is("first of not", nets.gate(5, 1), 4);
         Due.is("second of not", nets.gate(5, 2), 4);
         Due.is("delay of not", nets.gate(5, 3), 9);
-        Due.is("blanks about", text(nets, "  nand   b    05    03   "), 6);
+        Due.is("blanks about", Given.text(nets, "  nand   b    05    03   "), 6);
         Due.is("two digits, a source", nets.gate(6, 2), 5);
         Due.is("two digits, a delay", nets.gate(6, 3), 3);
-        Due.is("side by side", text(nets, "xor6b9"), 7);
+        Due.is("side by side", Given.text(nets, "xor6b9"), 7);
         Due.is("side by side, first", nets.gate(7, 1), 6);
         Due.is("side by side, second", nets.gate(7, 2), -2);
-        Due.is("like sources", text(nets, "and c c 1"), 8);
+        Due.is("like sources", Given.text(nets, "and c c 1"), 8);
         Due.is("the tape is empty then", nets.count(3), 0);
-        Due.is("gate 9", text(nets, "or 8 8 1"), 9);
-        Due.is("gate 10", text(nets, "or 9 09 1"), 10);
-        Due.is("gate 11 of gate 10", text(nets, "not 10 1"), 11);
+        Due.is("gate 9", Given.text(nets, "or 8 8 1"), 9);
+        Due.is("gate 10", Given.text(nets, "or 9 09 1"), 10);
+        Due.is("gate 11 of gate 10", Given.text(nets, "not 10 1"), 11);
         Due.is("gate 11's source", nets.gate(11, 1), 10);
-        Due.is("a 13th", text(nets, "and a b 1"), FULL);
+        Due.is("a 13th", Given.text(nets, "and a b 1"), FULL);
         Due.is("tape by FULL", nets.count(3), 0);
         Due.is("FULL changes no gate", nets.count(0), 12);
-        Due.is("FAULT ahead of FULL", text(nets, "and a b 0"), -108);
-        Due.is("gate 12 isn't there", text(nets, "not 12 1"), -104);
-        Due.is("gate 11 is, but FULL", text(nets, "not 11 1"), FULL);
+        Due.is("FAULT ahead of FULL", Given.text(nets, "and a b 0"), -108);
+        Due.is("gate 12 isn't there", Given.text(nets, "not 12 1"), -104);
+        Due.is("gate 11 is, but FULL", Given.text(nets, "not 11 1"), FULL);
     }
 
     private static void promise3Faults() {
@@ -191,19 +154,19 @@ public final class PromisesTest {
             {"and a b 100000000000000000001", 8}, {"and a b 12345678901234567890xy", 8},
             {"abcdefghijklmnopqrstuvwxyzabcd", 0}, {"                              ", 30}
         };
-        GlitchNets nets = with("not a 1", "not b 1");
+        GlitchNets nets = Given.net("not a 1", "not b 1");
         for (Object[] fault : faults) {
-            Due.is("fault of '" + fault[0] + "'", text(nets, (String) fault[0]), -100 - (Integer) fault[1]);
+            Due.is("fault of '" + fault[0] + "'", Given.text(nets, (String) fault[0]), -100 - (Integer) fault[1]);
             Due.is("tape by a fault of '" + fault[0] + "'", nets.count(3), 0);
         }
         Due.is("no gate came", nets.count(0), 2);
         Due.is("no deed", nets.count(2), 2);
-        Due.is("a gate that there is", text(nets, "not 1 1"), 2);
-        Due.is("a gate of a lesser number only", text(nets, "not 3 1"), -104);
+        Due.is("a gate that there is", Given.text(nets, "not 1 1"), 2);
+        Due.is("a gate of a lesser number only", Given.text(nets, "not 3 1"), -104);
     }
 
     private static void promise4Delay() {
-        GlitchNets nets = with("not a 4");
+        GlitchNets nets = Given.net("not a 4");
         Due.is("what it was", nets.delay(0, 9), 4);
         Due.is("what it became", nets.gate(0, 3), 9);
         Due.is("the same", nets.delay(0, 9), 9);
@@ -221,7 +184,7 @@ public final class PromisesTest {
     }
 
     private static void promise5Drop() {
-        GlitchNets nets = hazard();
+        GlitchNets nets = Given.hazard();
         nets.term(1, 1);
         Due.is("left", nets.drop(), 3);
         Due.is("no deeds any more", nets.count(2), 0);
@@ -235,12 +198,12 @@ public final class PromisesTest {
         nets.term(1, 1);
         Due.is("none", nets.drop(), STATE);
         Due.is("a refused one leaves deeds", nets.count(2), 1);
-        Due.is("a new one", text(nets, "not c 2"), 0);
+        Due.is("a new one", Given.text(nets, "not c 2"), 0);
         Due.is("of the new one", nets.table(), 0x0F0F);
     }
 
     private static void promise6Gate() {
-        GlitchNets nets = with("not b 3", "and a b 2", "nand 0 0 4", "or 2 0 1", "xor 3 c 9", "nor d 1 1");
+        GlitchNets nets = Given.net("not b 3", "and a b 2", "nand 0 0 4", "or 2 0 1", "xor 3 c 9", "nor d 1 1");
         int[][] due = {
             {5, -2, -2, 3, 3, 2}, {0, -1, -2, 2, 2, 1}, {1, 0, 0, 4, 7, 1},
             {2, 2, 0, 1, 8, 1}, {4, 3, -3, 9, 17, 0}, {3, -4, 1, 1, 3, 0}
@@ -258,11 +221,11 @@ public final class PromisesTest {
             Due.is("what " + w, nets.gate(0, w), BAD);
         }
         Due.is("no gates", new GlitchNets().gate(0, 0), BAD);
-        Due.is("PATH of twelve", full().gate(11, 4), 108);
+        Due.is("PATH of twelve", Given.twelve().gate(11, 4), 108);
     }
 
     private static void promise7Taken() {
-        GlitchNets nets = with("and a b 1", "nand a b 2", "or a b 3", "nor a b 4", "xor a b 5", "not a 6");
+        GlitchNets nets = Given.net("and a b 1", "nand a b 2", "or a b 3", "nor a b 4", "xor a b 5", "not a 6");
         for (int gate = 0; gate < 6; gate++) {
             for (int k = 0; k < 6; k++) {
                 boolean fits = gate == k || gate == 1 && k == 0 || gate == 3 && k == 2;
@@ -281,13 +244,13 @@ public final class PromisesTest {
         int[] tables = {0x8, 0x7, 0xE, 0x1, 0x6};
         GlitchNets nets = new GlitchNets();
         for (int kind = 0; kind < 5; kind++) {
-            text(nets, words[kind] + " a b 1");
+            Given.text(nets, words[kind] + " a b 1");
             for (int inputs = 0; inputs < 16; inputs++) {
                 Due.is(words[kind] + " at " + inputs, nets.tells(kind, inputs), tables[kind] >> inputs % 4 & 1);
             }
         }
-        text(nets, "not d 1");
-        text(nets, "and 5 c 1");
+        Given.text(nets, "not d 1");
+        Given.text(nets, "and 5 c 1");
         for (int inputs = 0; inputs < 16; inputs++) {
             Due.is("not d at " + inputs, nets.tells(5, inputs), inputs < 8 ? 1 : 0);
             Due.is("not d, and c, at " + inputs, nets.tells(6, inputs), inputs >= 4 && inputs < 8 ? 1 : 0);
@@ -306,16 +269,16 @@ public final class PromisesTest {
         String[] texts = {"and a a 1", "or b b 1", "and c c 1", "or d d 1", "not a 1", "xor c d 1", "nand a d 1", "nor b c 1"};
         int[] tables = {0xAAAA, 0xCCCC, 0xF0F0, 0xFF00, 0x5555, 0x0FF0, 0x55FF, 0x0303};
         for (int i = 0; i < texts.length; i++) {
-            text(nets, texts[i]);
+            Given.text(nets, texts[i]);
             Due.is("table of " + texts[i], nets.table(), tables[i]);
         }
-        text(nets, "xor 5 4 1");
+        Given.text(nets, "xor 5 4 1");
         Due.is("table of gates", nets.table(), 0x5AA5);
-        Due.is("hazard", hazard().table(), 47288);
+        Due.is("hazard", Given.hazard().table(), 47288);
     }
 
     private static void promise10Wave() {
-        GlitchNets nets = hazard();
+        GlitchNets nets = Given.hazard();
         int[] wave = {1, 1, 1, 0, 0, 0, 1, 1, 1};
         for (int time = 0; time < wave.length; time++) {
             Due.is("wave(7, 5, " + time + ")", nets.wave(7, 5, time), wave[time]);
@@ -340,7 +303,7 @@ public final class PromisesTest {
     }
 
     private static void promise10LongWave() {
-        GlitchNets nets = full();
+        GlitchNets nets = Given.twelve();
         Due.is("twelve times nine, ahead", nets.wave(0, 1, 107), 1);
         Due.is("twelve times nine", nets.wave(0, 1, 108), 0);
         Due.is("its one flip", nets.change(0, 1, 0), 1);
@@ -353,8 +316,8 @@ public final class PromisesTest {
         Due.is("otherwise with more flips", nets.change(0, 8, 1), 2);
         int[] lasts = {62, 63, 64, 65, 66};
         for (int last : lasts) {
-            GlitchNets one = with("not a 9", "not 0 9", "not 1 9", "not 2 9", "not 3 9", "not 4 9", "not 5 5");
-            text(one, "not 6 " + (last - 6 * 9 - 5));
+            GlitchNets one = Given.net("not a 9", "not 0 9", "not 1 9", "not 2 9", "not 3 9", "not 4 9", "not 5 5");
+            Given.text(one, "not 6 " + (last - 6 * 9 - 5));
             Due.is("ahead of " + last, one.wave(0, 1, last - 1), 0);
             Due.is("at " + last, one.wave(0, 1, last), 1);
             Due.is("one flip", one.change(0, 1, 0), 1);
@@ -363,7 +326,7 @@ public final class PromisesTest {
     }
 
     private static void promise11Change() {
-        GlitchNets nets = hazard();
+        GlitchNets nets = Given.hazard();
         Due.is("flips", nets.change(7, 5, 0), 2);
         Due.is("glitch", nets.change(7, 5, 1), 1);
         Due.is("settles", nets.change(7, 5, 2), 6);
@@ -373,7 +336,7 @@ public final class PromisesTest {
         Due.is("one flip", nets.change(0, 15, 0), 1);
         Due.is("one flip is no glitch", nets.change(0, 15, 1), 0);
         Due.is("its time", nets.change(0, 15, 2), 3);
-        GlitchNets late = with("not a 9", "xor 0 a 1", "xor 1 a 1");
+        GlitchNets late = Given.net("not a 9", "xor 0 a 1", "xor 1 a 1");
         Due.is("three flips", late.change(0, 1, 0), 3);
         Due.is("ends otherwise", late.change(0, 1, 1), 2);
         Due.is("at", late.change(0, 1, 2), 11);
@@ -391,32 +354,32 @@ public final class PromisesTest {
     }
 
     private static void promise12Worst() {
-        GlitchNets nets = hazard();
+        GlitchNets nets = Given.hazard();
         Due.is("x", nets.worst(0), 7);
         Due.is("y", nets.worst(1), 5);
         Due.is("flips", nets.worst(2), 2);
-        nets = with("xor a a 1");
+        nets = Given.net("xor a a 1");
         Due.is("none flips: least x", nets.worst(0), 0);
         Due.is("none flips: least y", nets.worst(1), 1);
         Due.is("none flips", nets.worst(2), 0);
-        nets = with("and a d 1");
+        nets = Given.net("and a d 1");
         Due.is("like ones: least x", nets.worst(0), 1);
         Due.is("one flip", nets.worst(2), 1);
-        nets = with("and c d 1", "xor a 0 1");
+        nets = Given.net("and c d 1", "xor a 0 1");
         Due.is("x 0 by a", 16 * nets.worst(0) + nets.worst(1), 1);
-        nets = with("nor a b 1");
+        nets = Given.net("nor a b 1");
         Due.is("x 0, least y", 16 * nets.worst(0) + nets.worst(1), 1);
-        nets = with("not a 1", "and 0 a 1", "and 1 b 1", "and 2 c 1");
+        nets = Given.net("not a 1", "and 0 a 1", "and 1 b 1", "and 2 c 1");
         Due.is("x 6 to 7: a pulse", 16 * nets.worst(0) + nets.worst(1), 16 * 6 + 7);
-        nets = with("not a 1", "nor a 0 1");
+        nets = Given.net("not a 1", "nor a 0 1");
         Due.is("x 1 to 0: a pulse", 16 * nets.worst(0) + nets.worst(1), 16);
-        nets = with("not a 1", "not b 1", "nor a 0 1", "nor b 1 1", "xor 2 3 1");
+        nets = Given.net("not a 1", "not b 1", "nor a 0 1", "nor b 1 1", "xor 2 3 1");
         Due.is("of x 3 the least y is 1, but x 1 is less", 16 * nets.worst(0) + nets.worst(1), 16);
-        nets = with("nand a b 1");
+        nets = Given.net("nand a b 1");
         Due.is("x 1 to 3 is ahead of x 3 to 1", 16 * nets.worst(0) + nets.worst(1), 19);
-        nets = with("and a b 1", "and 0 c 1", "not c 9", "and 0 2 1", "or 1 3 1");
+        nets = Given.net("and a b 1", "and 0 c 1", "not c 9", "and 0 2 1", "or 1 3 1");
         Due.is("x 7: y 3 by its pulse", 16 * nets.worst(0) + nets.worst(1), 16 * 7 + 3);
-        nets = with("xor a b 1", "and 0 c 1", "xor 1 d 1");
+        nets = Given.net("xor a b 1", "and 0 c 1", "xor 1 d 1");
         Due.is("x 0 to 8 is first of all", 16 * nets.worst(0) + nets.worst(1), 8);
         Due.is("what 3", nets.worst(3), BAD);
         Due.is("what -1", nets.worst(-1), BAD);
@@ -425,15 +388,15 @@ public final class PromisesTest {
     }
 
     private static void promise13Glitches() {
-        GlitchNets nets = hazard();
+        GlitchNets nets = Given.hazard();
         Due.is("none", nets.glitches(0), 62);
         Due.is("while nothing should", nets.glitches(1), 2);
         Due.is("while something should", nets.glitches(2), 0);
-        nets = with("not a 9", "xor 0 a 1", "xor 1 a 1");
+        nets = Given.net("not a 9", "xor 0 a 1", "xor 1 a 1");
         Due.is("each change of a", nets.glitches(2), 16);
         Due.is("no other", nets.glitches(0), 48);
         Due.is("none while nothing should", nets.glitches(1), 0);
-        nets = with("not a 9", "xor 0 a 1");
+        nets = Given.net("not a 9", "xor 0 a 1");
         Due.is("each change of a, back again", nets.glitches(1), 16);
         Due.is("g 3", nets.glitches(3), BAD);
         Due.is("g -1", nets.glitches(-1), BAD);
@@ -442,7 +405,7 @@ public final class PromisesTest {
     }
 
     private static void promise14Path() {
-        GlitchNets nets = hazard();
+        GlitchNets nets = Given.hazard();
         int[] due = {3, 2, 0, NONE, NONE};
         for (int k = 0; k < due.length; k++) {
             Due.is("path(" + k + ")", nets.path(k), due[k]);
@@ -455,12 +418,12 @@ public final class PromisesTest {
         Due.is("k least", nets.path(LEAST), BAD);
         Due.is("no gates", new GlitchNets().path(0), STATE);
         Due.is("BAD ahead of STATE", new GlitchNets().path(-1), BAD);
-        Due.is("of like ones first", with("not a 2", "not b 2", "or 1 0 1").path(1), 1);
-        Due.is("of like ones first", with("not a 2", "not b 2", "or 0 1 1").path(1), 0);
-        Due.is("a gate, not an input", with("not a 2", "or a 0 1").path(1), 0);
-        Due.is("a gate, not an input", with("not a 2", "or 0 a 1").path(1), 0);
-        Due.is("not all twelve", full().path(11), 0);
-        Due.is("behind the twelfth", full().path(12), NONE);
+        Due.is("of like ones first", Given.net("not a 2", "not b 2", "or 1 0 1").path(1), 1);
+        Due.is("of like ones first", Given.net("not a 2", "not b 2", "or 0 1 1").path(1), 0);
+        Due.is("a gate, not an input", Given.net("not a 2", "or a 0 1").path(1), 0);
+        Due.is("a gate, not an input", Given.net("not a 2", "or 0 a 1").path(1), 0);
+        Due.is("not all twelve", Given.twelve().path(11), 0);
+        Due.is("behind the twelfth", Given.twelve().path(12), NONE);
     }
 
     private static void promise15Term() {
@@ -537,11 +500,11 @@ public final class PromisesTest {
         nets.term(3, 3);
         nets.term(6, 4);
         Due.is("two terms", nets.covered(0), 47288);
-        text(nets, "and a b 1");
+        Given.text(nets, "and a b 1");
         Due.is("not the table", nets.covered(1), 0);
-        text(nets, "not b 1");
-        text(nets, "and 1 c 1");
-        text(nets, "or 0 2 1");
+        Given.text(nets, "not b 1");
+        Given.text(nets, "and 1 c 1");
+        Given.text(nets, "or 0 2 1");
         Due.is("the table", nets.covered(1), 1);
         nets.term(0, 0);
         Due.is("all", nets.covered(0), 65535);
@@ -632,25 +595,17 @@ public final class PromisesTest {
         Due.is("a ring of eight: eight primes", nets.prime(NONE), 8);
         Due.is("each is wanted", nets.added(0), 8);
         Due.is("all their bits", nets.added(1), 255);
-        nets = covering(14, 14, 5, 4, 14, 2, 11, 3, 11, 0, 5, 1);
+        nets = Given.cover(14, 14, 5, 4, 14, 2, 11, 3, 11, 0, 5, 1);
         Due.is("three, though lesser bits of four would do", nets.added(0), 3);
         Due.is("not 89", nets.added(1), 97);
-        nets = covering(5, 5, 11, 11, 15, 3, 6, 4, 5, 0, 11, 1);
+        nets = Given.cover(5, 5, 11, 11, 15, 3, 6, 4, 5, 0, 11, 1);
         Due.is("four, of three such sets", nets.added(0), 4);
         Due.is("least by bits, not by the first prime", nets.added(1), 209);
         Due.is("THE COVER is as it was", nets.count(1), 6);
     }
 
-    private static GlitchNets covering(int... caresAndWants) {
-        GlitchNets nets = new GlitchNets();
-        for (int i = 0; i < caresAndWants.length; i += 2) {
-            nets.term(caresAndWants[i], caresAndWants[i + 1]);
-        }
-        return nets;
-    }
-
     private static void promise22Told() {
-        GlitchNets nets = hazard();
+        GlitchNets nets = Given.hazard();
         Due.is("film", nets.film(0, 117, 9), 9);
         Due.is("as told", nets.told(0, 117, 0, 0), NONE);
         Due.is("a gate does not matter by 0", nets.told(0, 117, MOST, 0), NONE);
@@ -698,13 +653,13 @@ public final class PromisesTest {
     }
 
     private static void promise22Kinds() {
-        GlitchNets nets = with("not a 2", "or 0 b 1");
+        GlitchNets nets = Given.net("not a 2", "or 0 b 1");
         nets.film(0, 1, 10);
         Due.is("NOT as of a and a: nand, nor, not", nets.told(0, 1, 0, 2), 1 << 1 | 1 << 3 | 1 << 5);
-        nets = with("nand a b 1");
+        nets = Given.net("nand a b 1");
         nets.film(0, 16 * 2 + 3, 4);
         Due.is("NOT as of a alone, xor too", nets.told(0, 16 * 2 + 3, 0, 2), 1 << 1 | 1 << 4 | 1 << 5);
-        nets = with("not c 5", "and a b 7");
+        nets = Given.net("not c 5", "and a b 7");
         nets.film(0, 3, 20);
         Due.is("delays of a gate apart", nets.told(0, 3, 0, 1), 1022);
         Due.is("kinds of a gate apart", nets.told(0, 3, 0, 2), 63);
@@ -720,7 +675,7 @@ public final class PromisesTest {
     }
 
     private static void promise23Film() {
-        GlitchNets nets = hazard();
+        GlitchNets nets = Given.hazard();
         Due.is("none", nets.film(0, 117, 0), 0);
         Due.is("a row of none", nets.put(0, 0, 1), -12);
         Due.is("forty", nets.film(0, 117, 40), 40);
@@ -774,7 +729,7 @@ public final class PromisesTest {
     }
 
     private static void promise24EachDeed() {
-        GlitchNets nets = hazard();
+        GlitchNets nets = Given.hazard();
         nets.delay(1, 7);
         nets.delay(1, 7);
         Due.is("the same one, too", nets.undo(), 5);
@@ -809,18 +764,18 @@ public final class PromisesTest {
         nets.undo();
         nets.undo();
         Due.is("the eighth that was", nets.termOf(7, 1), 7);
-        text(nets, "not a 1");
+        Given.text(nets, "not a 1");
         nets.drop();
         Due.is("drop() leaves none", nets.undo(), STATE);
         Due.is("terms stay", nets.count(1), 8);
-        feed(nets, "not");
+        Given.feed(nets, "not");
         Due.is("feed is none", nets.undo(), STATE);
     }
 
     private static void promise25Image() {
         GlitchNets nets = new GlitchNets();
         Due.is("of none", nets.image(), 0);
-        text(nets, "not a 1");
+        Given.text(nets, "not a 1");
         nets.term(1, 1);
         Due.is("how many gates", nets.image(), 1);
         Due.is("deeds stay", nets.count(2), 2);
@@ -832,7 +787,7 @@ public final class PromisesTest {
     }
 
     private static void promise26Back() {
-        GlitchNets nets = hazard();
+        GlitchNets nets = Given.hazard();
         Due.is("there is none", nets.back(), STATE);
         Due.is("a refused one leaves deeds", nets.count(2), 4);
         nets.term(3, 3);
@@ -842,9 +797,9 @@ public final class PromisesTest {
         nets.term(5, 5);
         nets.off(0);
         nets.drop();
-        text(nets, "xor a b 4");
-        text(nets, "xor a b 4");
-        feed(nets, "nor");
+        Given.text(nets, "xor a b 4");
+        Given.text(nets, "xor a b 4");
+        Given.feed(nets, "nor");
         nets.sheet(0, 1, 3);
         Due.is("gates again", nets.back(), 4);
         Due.is("its delay", nets.gate(0, 3), 3);
@@ -863,9 +818,9 @@ public final class PromisesTest {
     }
 
     private static void promise27Count() {
-        GlitchNets nets = hazard();
+        GlitchNets nets = Given.hazard();
         nets.term(1, 0);
-        feed(nets, "abcdef");
+        Given.feed(nets, "abcdef");
         Due.is("gates", nets.count(0), 4);
         Due.is("terms", nets.count(1), 1);
         Due.is("deeds", nets.count(2), 5);
@@ -877,7 +832,7 @@ public final class PromisesTest {
     }
 
     private static void promise28Sheet() {
-        GlitchNets nets = with("and a b 1");
+        GlitchNets nets = Given.net("and a b 1");
         int[] wrong = {-1, 4, LEAST, MOST};
         for (int w : wrong) {
             Due.is("sheet " + w, nets.sheet(w, 0, 1), BAD);
@@ -910,7 +865,7 @@ public final class PromisesTest {
     }
 
     private static void promise29Put() {
-        GlitchNets nets = with("and a a 1");
+        GlitchNets nets = Given.net("and a a 1");
         nets.sheet(0, 0, 3);
         nets.sheet(1, 1, 3);
         Due.is("bytes", nets.put(0, 1, 256 + 1), 1);
@@ -933,7 +888,7 @@ public final class PromisesTest {
     }
 
     private static void promise30Copy() {
-        GlitchNets nets = with("and a a 1");
+        GlitchNets nets = Given.net("and a a 1");
         nets.sheet(0, 1, 4);
         nets.sheet(1, 1, 6);
         nets.sheet(2, 0, 6);
@@ -978,11 +933,7 @@ public final class PromisesTest {
 
     private static void promise31Load() {
         GlitchNets nets = new GlitchNets();
-        nets.sheet(0, 1, 9);
-        int[] items = {9, 3, 3, 4, 4, 1, 2, 5, 5};
-        for (int i = 0; i < items.length; i++) {
-            nets.put(0, i, items[i]);
-        }
+        Given.row(nets, 0, 1, 9, 3, 3, 4, 4, 1, 2, 5, 5);
         Due.is("from one on: 3 3, 4 4; 1 2 is left out", nets.load(0, 1, 1, 3), 2);
         Due.is("first", 100 * nets.termOf(0, 0) + nets.termOf(0, 1), 303);
         Due.is("second", 100 * nets.termOf(1, 0) + nets.termOf(1, 1), 404);
